@@ -1,0 +1,34 @@
+/** Counts the answers that are as due, and prints those that are not. */
+final class Check {
+    private static final int PRINTED_AT_MOST = 40;
+
+    private final String name;
+    private long passed = 0;
+    private long failed = 0;
+
+    Check(String name) {
+        this.name = name;
+    }
+
+    void due(String call, long got, long want) {
+        if (got == want) {
+            passed++;
+            return;
+        }
+        failed++;
+        if (failed <= PRINTED_AT_MOST) {
+            System.out.println(call + " answered " + got + ", due is " + want);
+        }
+    }
+
+    void due(String call, boolean got, boolean want) {
+        due(call, got ? 1 : 0, want ? 1 : 0);
+    }
+
+    void end() {
+        System.out.println(name + ": " + passed + " passed, " + failed + " failed");
+        if (failed != 0) {
+            System.exit(1);
+        }
+    }
+}
