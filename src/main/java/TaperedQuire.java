@@ -104,7 +104,7 @@ public final class TaperedQuire {
 
     public long toLong(int x) {
         left.read(x, size);
-        // So many bits reach beyond 2^63; -2^63 itself is a long, and has the same answer.
+        // From 2^63 on. That -2^63 itself is a long makes no difference: the answer is the same.
         boolean tooLarge = left.exponent >= Long.numberOfLeadingZeros(left.magnitude);
         if (left.not || tooLarge) {
             return Long.MIN_VALUE;
@@ -291,9 +291,8 @@ public final class TaperedQuire {
         int run = r >= 0 ? (1 << runLength) - 2 : 1;
         // Larger patterns have larger values, and the pattern of size + 1 bits that decides is u
         // with one bit more: so rounding the endless row of bits rounds the value as is due.
-        long fraction = significand << 1;
-        long tail = ((long) (scale & 3) << 62) | (fraction >>> 2);
-        boolean behindTail = more || (fraction & 3) != 0;
+        long tail = ((long) (scale & 3) << 62) | ((significand & Long.MAX_VALUE) >>> 1);
+        boolean behindTail = more || (significand & 1) != 0;
         int room = size - 1 - runLength;
         // Two shifts, as a shift by 64 would leave all bits where room is 0.
         int u = (run << room) | (int) (tail >>> 1 >>> (63 - room));
