@@ -25,6 +25,10 @@ final class Check {
         due(call, got ? 1 : 0, want ? 1 : 0);
     }
 
+    long count() {
+        return passed + failed;
+    }
+
     void end() {
         System.out.println(name + ": " + passed + " passed, " + failed + " failed");
         if (failed != 0) {

@@ -35,7 +35,6 @@ final class PromiseTest {
         promise16Wraps();
         promise17();
         promise18();
-        promise18FarBits();
         promise19();
         promise20();
         onlyTheLowestBits();
@@ -549,41 +548,6 @@ final class PromiseTest {
         due("18: a tie, even above", w.total(0), ONE32 + 2);
         w.collect(0, 1, 1, true);
         due("18: a unit of 2^-240 below it", w.total(0), ONE32 + 1);
-    }
-
-    /** A tie is none when one bit is set behind it, however far. */
-    private static void promise18FarBits() {
-        int[] one = {64, ONE16, ONE32};
-        int[] halfStep = {32, 2048, 8388608};
-        for (int width = 0; width <= 2; width++) {
-            TaperedQuire t = new TaperedQuire(width);
-            int largestProduct = 8 * t.bits() - 16;
-            int behind = 5 + (t.bits() - 8);
-            for (int place = behind; place <= largestProduct; place++) {
-                t.clear(0);
-                t.clear(1);
-                t.collect(1, 1, 1, false);
-                doubleTimes(t, largestProduct - place);
-                t.collect(0, one[width], one[width], false);
-                t.collect(0, halfStep[width], one[width], false);
-                due("18: the tie itself", t.total(0), one[width]);
-                t.merge(0);
-                due("18: a bit of 2^-" + place + " behind it", t.total(0), one[width] + 1);
-                t.negate(1);
-                t.merge(0);
-                t.merge(0);
-                due("18: or so much below it", t.total(0), one[width]);
-            }
-        }
-    }
-
-    /** Doubles sum 1 so many times; sum 0 is 0 before and after. */
-    private static void doubleTimes(TaperedQuire t, int times) {
-        for (int i = 0; i < times; i++) {
-            t.merge(0);
-            t.merge(1);
-            t.clear(0);
-        }
     }
 
     private static void promise19() {

@@ -1,6 +1,9 @@
 import java.math.BigInteger;
 
-/** Answers of single calls against the document's words, as {@link Reference} puts them. */
+/**
+ * Answers of single calls against the document's words, as {@link Reference} puts them. Each group of
+ * calls has an object of its own, as nothing is promised of one behind its 512th call.
+ */
 final class ReferenceTest {
     private static final Check CHECK = new Check("ReferenceTest");
 
@@ -32,18 +35,20 @@ final class ReferenceTest {
         }
     }
 
-    private static void unary(TaperedQuire t, Reference r, int x) {
+    private static void unary(int width, Reference r, int x) {
+        TaperedQuire t = new TaperedQuire(width);
         String at = t.bits() + " bits: ";
         CHECK.due(at + "root(" + x + ")", t.root(x), r.root(x));
         CHECK.due(at + "whole(" + x + ")", t.whole(x), r.whole(x));
         CHECK.due(at + "toLong(" + x + ")", t.toLong(x), r.toLong(x));
         CHECK.due(at + "next(" + x + ")", t.next(x), r.next(x));
-        for (int width = 0; width <= 2; width++) {
-            CHECK.due(at + "convert(" + x + ", " + width + ")", t.convert(x, width), r.convert(x, width));
+        for (int to = 0; to <= 2; to++) {
+            CHECK.due(at + "convert(" + x + ", " + to + ")", t.convert(x, to), r.convert(x, to));
         }
     }
 
-    private static void binary(TaperedQuire t, Reference r, int x, int y) {
+    private static void binary(int width, Reference r, int x, int y) {
+        TaperedQuire t = new TaperedQuire(width);
         String of = "(" + x + ", " + y + ") of " + t.bits() + " bits";
         CHECK.due("add" + of, t.add(x, y), r.add(x, y));
         CHECK.due("subtract" + of, t.subtract(x, y), r.subtract(x, y));
@@ -52,78 +57,77 @@ final class ReferenceTest {
         CHECK.due("compare" + of, t.compare(x, y), r.compare(x, y));
     }
 
-    private static void ternary(TaperedQuire t, Reference r, int x, int y, int z) {
+    private static void ternary(int width, Reference r, int x, int y, int z) {
+        TaperedQuire t = new TaperedQuire(width);
         String of = "(" + x + ", " + y + ", " + z + ") of " + t.bits() + " bits";
         CHECK.due("fused" + of, t.fused(x, y, z), r.fused(x, y, z));
     }
 
+    private static void fromLong(int width, Reference r, long v) {
+        CHECK.due(r.bits() + " bits: fromLong(" + v + ")", new TaperedQuire(width).fromLong(v), r.fromLong(v));
+    }
+
     private static void edges(int width) {
-        TaperedQuire t = new TaperedQuire(width);
         Reference r = new Reference(width);
         int[] edges = Operands.edges(r.bits());
         for (int x : edges) {
-            unary(t, r, x);
+            unary(width, r, x);
             for (int y : edges) {
-                binary(t, r, x, y);
+                binary(width, r, x, y);
             }
         }
         for (int i = 0; i < edges.length; i++) {
             for (int j = i; j < edges.length; j += 2) {
                 for (int k = j % 3; k < edges.length; k += 3) {
-                    ternary(t, r, edges[i], edges[j], edges[k]);
+                    ternary(width, r, edges[i], edges[j], edges[k]);
                 }
             }
         }
     }
 
     private static void samples(int width, int count) {
-        TaperedQuire t = new TaperedQuire(width);
         Reference r = new Reference(width);
         Operands some = new Operands(r.bits(), 11 + width);
         for (int i = 0; i < count; i++) {
             int x = some.pattern();
             int y = some.pattern();
-            unary(t, r, x);
-            binary(t, r, x, y);
-            ternary(t, r, x, y, some.pattern());
+            unary(width, r, x);
+            binary(width, r, x, y);
+            ternary(width, r, x, y, some.pattern());
             // The product nearly cancels: what is left lies far below both.
-            ternary(t, r, x, y, -t.multiply(x, y));
+            ternary(width, r, x, y, -r.multiply(x, y));
         }
     }
 
     private static void longs(int width) {
-        TaperedQuire t = new TaperedQuire(width);
         Reference r = new Reference(width);
         Operands some = new Operands(r.bits(), 21 + width);
         for (int i = 0; i < 6000; i++) {
-            long v = some.wide();
-            CHECK.due(t.bits() + " bits: fromLong(" + v + ")", t.fromLong(v), r.fromLong(v));
+            fromLong(width, r, some.wide());
         }
         for (int e = 0; e < 64; e++) {
             for (long near = -2; near <= 2; near++) {
                 long v = (1L << e) + near;
-                CHECK.due(t.bits() + " bits: fromLong(" + v + ")", t.fromLong(v), r.fromLong(v));
-                CHECK.due(t.bits() + " bits: fromLong(" + -v + ")", t.fromLong(-v), r.fromLong(-v));
+                fromLong(width, r, v);
+                fromLong(width, r, -v);
             }
         }
     }
 
     private static void allPairsOfEightBits() {
-        TaperedQuire t = new TaperedQuire(0);
         Reference r = new Reference(0);
         for (int x = -128; x < 128; x++) {
             for (int y = -128; y < 128; y++) {
-                binary(t, r, x, y);
+                binary(0, r, x, y);
             }
         }
     }
 
     private static void allPatterns(int width) {
-        TaperedQuire t = new TaperedQuire(width);
         Reference r = new Reference(width);
         int bound = 1 << (r.bits() - 1);
         for (int x = -bound; x < bound; x++) {
-            unary(t, r, x);
+            unary(width, r, x);
         }
     }
 

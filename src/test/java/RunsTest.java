@@ -2,6 +2,8 @@
 final class RunsTest {
     private static final Check CHECK = new Check("RunsTest");
     private static final int CALLS = 512;
+    /** Of these so many look at the words of both sums, and around them, at the end. */
+    private static final int LOOKS = 4 * 11;
 
     private final TaperedQuire t;
     private final Reference r;
@@ -26,7 +28,7 @@ final class RunsTest {
     private void run() {
         // Every third run is of sums alone, and seldom clears them, so that they grow and wrap.
         boolean sumsAlone = some.below(3) == 0;
-        for (int i = 0; i < CALLS; i++) {
+        for (int i = 0; i < CALLS - LOOKS; i++) {
             if (sumsAlone || some.below(2) == 0) {
                 sumCall();
             } else {
