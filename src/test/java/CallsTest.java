@@ -16,6 +16,7 @@ final class CallsTest {
         s.inEachWidth("at most 512 calls, the last but one of each that changes a sum", CallsTest::lastChange);
         s.inEachWidth("at most 512 calls, all of them counted in a sum", CallsTest::fullSum);
         s.inEachWidth("at most 512 calls, all of them refused", CallsTest::refusedCalls);
+        s.inEachWidth("no call on numbers leaves anything behind for the next", CallsTest::nothingLeftBehind);
         s.end();
     }
 
@@ -144,7 +145,7 @@ final class CallsTest {
         t.collect(0, w.one, w.one, false);
         for (int i = 2; i < CALLS; i++) {
             int q = Width.NO_SUMS[i % Width.NO_SUMS.length];
-            boolean answer = switch (i % 4) {
+            boolean answer = switch (i / Width.NO_SUMS.length % 4) {
                 case 0 -> t.clear(q);
                 case 1 -> t.collect(q, w.not, w.one, false);
                 case 2 -> t.merge(q);
@@ -153,5 +154,54 @@ final class CallsTest {
             w.due("a refused call on sum " + q, answer, false);
         }
         w.due("total(0) as call 512", t.total(0), w.one);
+    }
+
+    /** Calls with every edge in every place, so that what is kept of one would be seen in the next. */
+    private static void nothingLeftBehind(Width w) {
+        for (int edge : new int[] {w.not, 0, 1, -1, w.largest, -w.largest}) {
+            Call[] first = {t -> t.add(edge, w.one), t -> t.add(w.one, edge), t -> t.subtract(w.one, edge),
+                t -> t.multiply(w.one, edge), t -> t.divide(edge, w.one), t -> t.divide(w.one, edge), t -> t.root(edge),
+                t -> t.fused(edge, w.one, w.one), t -> t.fused(w.one, edge, w.one), t -> t.fused(w.one, w.one, edge),
+                t -> t.whole(edge), t -> t.next(edge), t -> t.toLong(edge), t -> t.convert(edge, 0), t -> t.total(2),
+                t -> bit(t.collect(2, edge, w.one, false)), t -> t.compare(edge, w.one), t -> t.fromLong(Long.MIN_VALUE)};
+            for (int i = 0; i < first.length; i++) {
+                callsAfter(w, "call " + i + " of " + edge, first[i]);
+            }
+        }
+    }
+
+    private static void callsAfter(Width w, String before, Call first) {
+        int two = w.power(1);
+        int half = w.pattern(0, "1");
+        after(w, before + ", add(1, 1)", first, t -> t.add(w.one, w.one), two);
+        after(w, before + ", subtract(2, 1)", first, t -> t.subtract(two, w.one), w.one);
+        after(w, before + ", multiply(2, 1)", first, t -> t.multiply(two, w.one), two);
+        after(w, before + ", divide(2, 2)", first, t -> t.divide(two, two), w.one);
+        after(w, before + ", root(4)", first, t -> t.root(w.power(2)), two);
+        after(w, before + ", fused(1, 1, 1)", first, t -> t.fused(w.one, w.one, w.one), two);
+        after(w, before + ", whole(3/2)", first, t -> t.whole(half), two);
+        after(w, before + ", add(0, 0)", first, t -> t.add(0, 0), 0);
+        after(w, before + ", multiply(0, 1)", first, t -> t.multiply(0, w.one), 0);
+        after(w, before + ", divide(0, 1)", first, t -> t.divide(0, w.one), 0);
+        after(w, before + ", root(0)", first, t -> t.root(0), 0);
+        after(w, before + ", whole(0)", first, t -> t.whole(0), 0);
+        after(w, before + ", toLong(0)", first, t -> t.toLong(0), 0);
+        after(w, before + ", convert(0, 0)", first, t -> t.convert(0, 0), 0);
+        after(w, before + ", next(0)", first, t -> t.next(0), 1);
+        after(w, before + ", toLong(3/2)", first, t -> t.toLong(half), 2);
+        after(w, before + ", toLong of many bits", first, t -> t.toLong(two - 1), 2);
+        after(w, before + ", fromLong(2)", first, t -> t.fromLong(2), two);
+        after(w, before + ", convert(1, 2)", first, t -> t.convert(w.one, 2), 1 << 30);
+        after(w, before + ", compare(1, 2)", first, t -> t.compare(w.one, two), -1);
+        after(w, before + ", total(0)", first, t -> t.total(0), 0);
+        after(w, before + ", total(1)", first, t -> t.total(1), 0);
+        after(w, before + ", collect and total", first, t -> t.collect(0, two, w.one, false) ? t.total(0) : 0, two);
+        after(w, before + ", merge and total", first, t -> t.merge(0) ? t.total(0) : 1, 0);
+    }
+
+    private static void after(Width w, String name, Call first, Call second, long want) {
+        TaperedQuire t = w.object();
+        first.on(t);
+        w.due(name, second.on(t), want);
     }
 }

@@ -29,6 +29,10 @@ final class Check {
         return passed + failed;
     }
 
+    long failures() {
+        return failed;
+    }
+
     void end() {
         System.out.println(name + ": " + passed + " passed, " + failed + " failed");
         if (failed != 0) {

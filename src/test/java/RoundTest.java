@@ -1,4 +1,6 @@
 import java.math.BigInteger;
+import java.util.ArrayList;
+import java.util.List;
 
 /**
  * "To ROUND": each sentence in each call that can meet it. Between 1 and 2 a step is s = 2^(5 - n),
@@ -17,7 +19,7 @@ final class RoundTest {
         s.inEachWidth("if |x| is the value of a pattern, it is that", RoundTest::exactValues);
         s.inEachWidth("if |x| is the value of a pattern, a root", RoundTest::exactRoots);
         s.inEachWidth("u below v, u + 1 above, the even one at v: a sum", RoundTest::sumsAtTheMiddle);
-        s.inEachWidth("u + 1 above v, by one far bit", RoundTest::farBits);
+        s.inEachWidth("u below v, u + 1 above, by one far bit", RoundTest::farBits);
         s.inEachWidth("u below v, u + 1 above, the even one at v: add", RoundTest::additions);
         s.inEachWidth("u below v, u + 1 above, the even one at v: subtract", RoundTest::subtractions);
         s.inEachWidth("u below v, u + 1 above, the even one at v: multiply", RoundTest::products);
@@ -200,62 +202,90 @@ final class RoundTest {
         w.due("root of 9/16", t.root(w.pattern(-1, "001")), w.pattern(-1, "1"));
     }
 
-    /** v as powers of two, of which each but the first has a sign. */
-    private static void middle(Width w, int u, int scale, int... signed) {
-        int even = u + (u & 1);
-        for (int side = -1; side <= 1; side++) {
+    /** u, and v as powers of two, of which those in less are taken away. */
+    private record Middle(int u, int[] powers, int[] less) {
+        static Middle of(int u, int... powers) {
+            return new Middle(u, powers, new int[0]);
+        }
+
+        Middle without(int... taken) {
+            return new Middle(u, powers, taken);
+        }
+
+        int even() {
+            return u + (u & 1);
+        }
+
+        int lastPower() {
+            return less.length > 0 ? less[less.length - 1] : powers[powers.length - 1];
+        }
+
+        TaperedQuire inSum(Width w, int q) {
             TaperedQuire t = w.object();
-            w.addPower(t, 0, scale, false);
-            for (int i = 0; i < signed.length; i += 2) {
-                w.addPower(t, 0, signed[i + 1], signed[i] < 0);
+            for (int scale : powers) {
+                w.addPower(t, q, scale, false);
             }
-            if (side != 0) {
-                t.collect(0, 1, 1, side < 0);
+            for (int scale : less) {
+                w.addPower(t, q, scale, true);
             }
-            int want = side < 0 ? u : side > 0 ? u + 1 : even;
-            w.due("at " + side + " of the middle behind " + u, t.total(0), want);
-            t.negate(0);
-            w.due("at " + -side + " of the middle before " + -u, t.total(0), -want);
+            return t;
         }
     }
 
-    private static void sumsAtTheMiddle(Width w) {
+    private static List<Middle> middles(Width w) {
         int n = w.n;
         int s = 5 - n;
-        middle(w, 1, 10 - 4 * n);
-        middle(w, 2, 13 - 4 * n);
-        middle(w, 3, 15 - 4 * n);
-        middle(w, 4, 16 - 4 * n, 1, 15 - 4 * n);
-        middle(w, 5, 17 - 4 * n, 1, 16 - 4 * n);
-        middle(w, 7, 19 - 4 * n, 1, 18 - 4 * n);
-        middle(w, w.one - 2, 0, -1, s - 1, -1, s - 2);
-        middle(w, w.one - 1, 0, -1, s - 2);
-        middle(w, w.one, 0, 1, s - 1);
-        middle(w, w.one + 1, 0, 1, s, 1, s - 1);
-        middle(w, w.largest - 5, 4 * n - 18, 1, 4 * n - 19);
-        middle(w, w.largest - 4, 4 * n - 17, 1, 4 * n - 18);
-        middle(w, w.largest - 3, 4 * n - 15);
-        middle(w, w.largest - 2, 4 * n - 13);
-        middle(w, w.largest - 1, 4 * n - 10);
+        List<Middle> all = new ArrayList<>(List.of(
+            // Bits of e are cut off.
+            Middle.of(1, 10 - 4 * n),
+            Middle.of(2, 13 - 4 * n),
+            Middle.of(3, 15 - 4 * n),
+            Middle.of(w.largest - 3, 4 * n - 15),
+            Middle.of(w.largest - 2, 4 * n - 13),
+            Middle.of(w.largest - 1, 4 * n - 10),
+            // All bits of the fraction are set, or all but the last.
+            Middle.of(w.one - 2, 0).without(s - 1, s - 2),
+            Middle.of(w.one - 1, 0).without(s - 2)));
+        for (int scale = 16 - 4 * n; scale <= 4 * n - 17; scale++) {
+            int step = scale - w.fractionBits(scale);
+            all.add(Middle.of(w.power(scale), scale, step - 1));
+            if (step < scale) {
+                all.add(Middle.of(w.power(scale) + 1, scale, step, step - 1));
+            }
+        }
+        return all;
+    }
+
+    private static void sumsAtTheMiddle(Width w) {
+        for (Middle m : middles(w)) {
+            for (int side = -1; side <= 1; side++) {
+                TaperedQuire t = m.inSum(w, 0);
+                if (side != 0) {
+                    t.collect(0, 1, 1, side < 0);
+                }
+                int want = side < 0 ? m.u : side > 0 ? m.u + 1 : m.even();
+                w.due("at " + side + " of the middle behind " + m.u, t.total(0), want);
+                t.negate(0);
+                w.due("at " + -side + " of the middle before " + -m.u, t.total(0), -want);
+            }
+        }
     }
 
     /** A bit behind the middle counts, however far it is; so does one that is missing. */
     private static void farBits(Width w) {
-        for (int scale = 3 - w.n; scale >= 16 - 8 * w.n; scale--) {
-            TaperedQuire t = w.object();
-            t.collect(0, w.one, w.one, false);
-            w.addPower(t, 0, 4 - w.n, false);
-            w.due("the middle behind 1", t.total(0), w.one);
-            w.addPower(t, 0, scale, false);
-            w.due("and 2^" + scale, t.total(0), w.one + 1);
-            t.negate(0);
-            w.due("its negative", t.total(0), -w.one - 1);
-            TaperedQuire b = w.object();
-            b.collect(0, w.one + 1, w.one, false);
-            w.addPower(b, 0, 4 - w.n, false);
-            w.due("the middle behind 1 + s", b.total(0), w.one + 2);
-            w.addPower(b, 0, scale, true);
-            w.due("less 2^" + scale, b.total(0), w.one + 1);
+        for (Middle m : middles(w)) {
+            for (int scale = m.lastPower() - 1; scale >= 16 - 8 * w.n; scale--) {
+                TaperedQuire above = m.inSum(w, 1);
+                w.addPower(above, 1, scale, false);
+                w.due("2^" + scale + " above the middle behind " + m.u, above.total(1), m.u + 1);
+                above.negate(1);
+                w.due("2^" + scale + " below the middle before " + -m.u, above.total(1), -m.u - 1);
+                TaperedQuire below = m.inSum(w, 1);
+                w.addPower(below, 1, scale, true);
+                w.due("2^" + scale + " below the middle behind " + m.u, below.total(1), m.u);
+                below.negate(1);
+                w.due("2^" + scale + " above the middle before " + -m.u, below.total(1), -m.u);
+            }
         }
     }
 
@@ -342,9 +372,21 @@ final class RoundTest {
         w.due("root(1 + 3 s)", t.root(w.one + 3), w.one + 1);
         w.due("root(1 - s/2)", t.root(w.one - 1), w.one - 1);
         int steps = 1 << (w.n - 5);
-        for (int k = 1; k < steps; k += 1 + steps / 64) {
+        int stride = w.n < 32 ? 1 : 1 + steps / 4096;
+        for (int k = 1; k < steps; k += stride) {
             rootOf(w, k, 1);
             rootOf(w, k, 2);
+        }
+        if (w.n == 32) {
+            // Of all these roots the nearest ones above v, behind an even u, and below v, behind an odd one.
+            rootOf(w, 72349114, 1);
+            rootOf(w, 67814735, 1);
+            rootOf(w, 80155956, 2);
+            rootOf(w, 100623733, 2);
+            rootOf(w, 3, 1);
+            rootOf(w, 108119838, 1);
+            rootOf(w, 134217727, 2);
+            rootOf(w, 46555430, 2);
         }
     }
 

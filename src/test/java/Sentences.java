@@ -1,3 +1,6 @@
+import java.util.ArrayList;
+import java.util.List;
+
 /** The sentences of the document that a test looks at, each in all three widths. */
 final class Sentences {
     /** What one sentence asks in one width. */
@@ -6,6 +9,8 @@ final class Sentences {
     }
 
     private final Check check;
+    // Of the wrong answers only the first are printed: the names of all that broke are kept.
+    private final List<String> broken = new ArrayList<>();
 
     Sentences(String name) {
         check = new Check(name);
@@ -13,14 +18,22 @@ final class Sentences {
 
     void inEachWidth(String sentence, Look look) {
         for (int width = 0; width <= 2; width++) {
-            long before = check.count();
-            look.at(new Width(width, sentence, check));
+            Width w = new Width(width, sentence, check);
+            long looked = check.count();
+            long failed = check.failures();
+            look.at(w);
             // A look that checks nothing would pass for ever.
-            check.due(sentence + ": nothing looked at in width " + width, check.count() > before, true);
+            check.due(sentence + ": looked at in " + w.n + " bits", check.count() > looked, true);
+            if (check.failures() > failed) {
+                broken.add(sentence + " (" + w.n + " bits)");
+            }
         }
     }
 
     void end() {
+        for (String sentence : broken) {
+            System.out.println("broken: " + sentence);
+        }
         check.end();
     }
 }

@@ -20,7 +20,9 @@ final class SumTest {
         s.inEachWidth("a sum is 16 * n bits, read as a two's-complement integer", SumTest::sixteenTimesN);
         s.inEachWidth("the integer -2^(16 n - 1) is NOT", SumTest::leastIntegerIsNot);
         s.inEachWidth("any other stands for i * 2^(16 - 8 n)", SumTest::otherIntegersAreNumbers);
+        s.inEachWidth("any other stands for i * 2^(16 - 8 n), with one bit but the first", SumTest::oneBitMoreThanNot);
         s.inEachWidth("every product is a whole number of these units", SumTest::productsAreUnits);
+        s.inEachWidth("every product is a whole number of these units, of all bits", SumTest::longProducts);
         s.inEachWidth("additions wrap: collect upwards", SumTest::collectWrapsUpwards);
         s.inEachWidth("additions wrap: collect downwards", SumTest::collectWrapsDownwards);
         s.inEachWidth("additions wrap: merge", SumTest::mergeWraps);
@@ -138,11 +140,45 @@ final class SumTest {
                 w.sumDue("2^" + a + " * 2^" + b, t, 0, w.units(a + b));
             }
         }
-        // All bits of the fraction: (2 - s)^2 = 4 - 4 s + s^2.
-        int s = 5 - w.n;
-        TaperedQuire t = w.object();
-        t.collect(0, w.power(1) - 1, w.power(1) - 1, false);
-        w.sumDue("(2 - s)^2", t, 0, w.units(2).subtract(w.units(2 + s)).add(w.units(2 * s)));
+    }
+
+    /** Products with as many bits as there can be, at every place that they can have in the words. */
+    private static void longProducts(Width w) {
+        for (int a = 16 - 4 * w.n; a < 4 * w.n - 17; a++) {
+            for (int b = a; b <= a + 1; b++) {
+                TaperedQuire t = w.object();
+                // Before the next power of two all bits of the fraction are set.
+                int x = w.power(a + 1) - 1;
+                int y = w.power(b + 1) - 1;
+                t.collect(0, x, y, false);
+                t.collect(1, x, -y, false);
+                int f = w.fractionBits(a);
+                int g = w.fractionBits(b);
+                BigInteger want = allOnes(f + 1).multiply(allOnes(g + 1)).shiftLeft(a - f + b - g + w.placeOfOne);
+                w.sumDue("before 2^" + (a + 1) + " * before 2^" + (b + 1), t, 0, want);
+                w.sumDue("its negative", t, 1, want.negate());
+            }
+        }
+    }
+
+    private static BigInteger allOnes(int bits) {
+        return Width.two(bits).subtract(ONE);
+    }
+
+    /** NOT has the first bit alone: with any other one it is a number, and stays one. */
+    private static void oneBitMoreThanNot(Width w) {
+        for (int place = 0; place <= 16 * w.n - 32; place++) {
+            TaperedQuire t = w.object();
+            w.makeLargest(t, 0);
+            t.negate(0);
+            w.addPower(t, 0, place - w.placeOfOne, false);
+            t.collect(0, 1, 1, true);
+            BigInteger want = w.sumNot().add(Width.two(place));
+            w.sumDue("NOT's bit and bit " + place, t, 0, want);
+            w.due("its total", t.total(0), -w.largest);
+            t.merge(1);
+            w.sumDue("merged into 0", t, 1, want);
+        }
     }
 
     private static void collectWrapsUpwards(Width w) {
@@ -305,8 +341,8 @@ final class SumTest {
         TaperedQuire t = filled(w);
         for (int q : Width.NO_SUMS) {
             w.due("clear(" + q + ")", t.clear(q), false);
+            filledDue("after clear(" + q + ")", w, t);
         }
-        filledDue("after them", w, t);
     }
 
     private static void collected(Width w) {
@@ -356,14 +392,17 @@ final class SumTest {
     }
 
     private static void collectRefused(Width w) {
-        TaperedQuire t = filled(w);
         for (int q : Width.NO_SUMS) {
+            TaperedQuire t = filled(w);
             w.due("collect(" + q + ")", t.collect(q, w.one, w.one, false), false);
+            filledDue("after collect(" + q + ")", w, t);
             w.due("collect(" + q + ") minus", t.collect(q, w.one, w.one, true), false);
+            filledDue("after collect(" + q + ") minus", w, t);
             w.due("collect(" + q + ") of NOT", t.collect(q, w.not, w.one, false), false);
-            w.due("collect(" + q + ") of NOT", t.collect(q, w.one, w.not, true), false);
+            filledDue("after collect(" + q + ") of NOT", w, t);
+            w.due("collect(" + q + ") of NOT, minus", t.collect(q, w.one, w.not, true), false);
+            filledDue("after collect(" + q + ") of NOT, minus", w, t);
         }
-        filledDue("after them", w, t);
     }
 
     private static void collectedIntoNot(Width w) {
@@ -427,8 +466,8 @@ final class SumTest {
         TaperedQuire t = filled(w);
         for (int q : Width.NO_SUMS) {
             w.due("merge(" + q + ")", t.merge(q), false);
+            filledDue("after merge(" + q + ")", w, t);
         }
-        filledDue("after them", w, t);
     }
 
     private static void mergedNot(Width w) {
@@ -490,8 +529,8 @@ final class SumTest {
         TaperedQuire t = filled(w);
         for (int q : Width.NO_SUMS) {
             w.due("negate(" + q + ")", t.negate(q), false);
+            filledDue("after negate(" + q + ")", w, t);
         }
-        filledDue("after them", w, t);
     }
 
     private static void totalled(Width w) {

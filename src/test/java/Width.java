@@ -17,6 +17,8 @@ final class Width {
     final int one;
     /** The bit of a sum that stands for 1. */
     final int placeOfOne;
+    /** The patterns of the powers of two from the least value's on; 0 where a power has none. */
+    private final int[] powers;
     private final String sentence;
     private final Check check;
 
@@ -29,6 +31,11 @@ final class Width {
         largest = -(not + 1);
         one = 1 << (n - 2);
         placeOfOne = 8 * n - 16;
+        powers = new int[2 * (4 * n - 8) + 1];
+        for (int scale = 8 - 4 * n; scale <= 4 * n - 8; scale++) {
+            boolean cut = text(scale, "").indexOf('1', n) >= 0;
+            powers[scale + 4 * n - 8] = cut ? 0 : pattern(scale, "");
+        }
     }
 
     static int bitsOf(int width) {
@@ -60,11 +67,18 @@ final class Width {
         if (!hasPower(scale)) {
             throw new IllegalArgumentException("no pattern of " + n + " bits for 2^" + scale);
         }
-        return pattern(scale, "");
+        return powers[scale + 4 * n - 8];
     }
 
     boolean hasPower(int scale) {
-        return Math.abs(scale) <= 4 * n - 8 && text(scale, "").indexOf('1', n) < 0;
+        return Math.abs(scale) <= 4 * n - 8 && powers[scale + 4 * n - 8] != 0;
+    }
+
+    /** How many bits of the fraction there are between 2^scale and twice that; -1 and less: bits of e lack. */
+    int fractionBits(int scale) {
+        int r = Math.floorDiv(scale, 4);
+        int run = r >= 0 ? r + 2 : 1 - r;
+        return n - 1 - run - 2;
     }
 
     private String text(int scale, String f) {
