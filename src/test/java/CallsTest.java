@@ -158,7 +158,8 @@ final class CallsTest {
 
     /** Calls with every edge in every place, so that what is kept of one would be seen in the next. */
     private static void nothingLeftBehind(Width w) {
-        for (int edge : new int[] {w.not, 0, 1, -1, w.largest, -w.largest}) {
+        int ofAllBits = w.power(1) - 1;
+        for (int edge : new int[] {w.not, 0, 1, -1, w.largest, -w.largest, ofAllBits}) {
             Call[] first = {t -> t.add(edge, w.one), t -> t.add(w.one, edge), t -> t.subtract(w.one, edge),
                 t -> t.multiply(w.one, edge), t -> t.divide(edge, w.one), t -> t.divide(w.one, edge), t -> t.root(edge),
                 t -> t.fused(edge, w.one, w.one), t -> t.fused(w.one, edge, w.one), t -> t.fused(w.one, w.one, edge),
@@ -190,6 +191,8 @@ final class CallsTest {
         after(w, before + ", next(0)", first, t -> t.next(0), 1);
         after(w, before + ", toLong(3/2)", first, t -> t.toLong(half), 2);
         after(w, before + ", toLong of many bits", first, t -> t.toLong(two - 1), 2);
+        int scale = Math.min(4 * w.n - 8, 62);
+        after(w, before + ", toLong(2^" + scale + ")", first, t -> t.toLong(w.power(scale)), 1L << scale);
         after(w, before + ", fromLong(2)", first, t -> t.fromLong(2), two);
         after(w, before + ", convert(1, 2)", first, t -> t.convert(w.one, 2), 1 << 30);
         after(w, before + ", compare(1, 2)", first, t -> t.compare(w.one, two), -1);
