@@ -227,7 +227,7 @@ public final class TaperedQuire {
             return v.magnitude << v.exponent;
         }
         int drop = -v.exponent;
-        // A magnitude has fewer than 33 bits, so that what is shifted so far lies below a half.
+        // A magnitude is below 2^28, so that what is shifted so far lies below a half.
         if (drop > 60) {
             return 0;
         }

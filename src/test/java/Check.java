@@ -1,3 +1,5 @@
+import java.util.function.Supplier;
+
 /** Counts the answers that are as due, and prints those that are not. */
 final class Check {
     private static final int PRINTED_AT_MOST = 40;
@@ -23,6 +25,18 @@ final class Check {
 
     void due(String call, boolean got, boolean want) {
         due(call, got ? 1 : 0, want ? 1 : 0);
+    }
+
+    /** Where what is due is a condition; the text is made only where it fails. */
+    void holds(boolean asDue, Supplier<String> answered) {
+        if (asDue) {
+            passed++;
+            return;
+        }
+        failed++;
+        if (failed <= PRINTED_AT_MOST) {
+            System.out.println(answered.get() + ", which is not what is due");
+        }
     }
 
     long count() {

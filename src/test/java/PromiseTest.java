@@ -39,6 +39,7 @@ final class PromiseTest {
         promise20();
         onlyTheLowestBits();
         numbersLeaveTheSums();
+        exampleOfTheReadme();
         CHECK.end();
     }
 
@@ -188,6 +189,7 @@ final class PromiseTest {
         due("7: root of 4", t.root(80), 72);
         due("7: root of 9", t.root(89), 76);
         due("7: root of 2", t.root(72), 67);
+        due("7: root of 6", t.root(84), 74);
         due("7: root of 1", t.root(64), 64);
         due("7: root of 0", t.root(0), 0);
         due("7: root of the largest, 2^12", t.root(127), 120);
@@ -548,6 +550,12 @@ final class PromiseTest {
         due("18: a tie, even above", w.total(0), ONE32 + 2);
         w.collect(0, 1, 1, true);
         due("18: a unit of 2^-240 below it", w.total(0), ONE32 + 1);
+        w.clear(0);
+        w.collect(0, ONE32, ONE32, false);
+        w.collect(0, 8388608, ONE32, false);
+        due("18: a tie, even below", w.total(0), ONE32);
+        w.collect(0, 1, 1, false);
+        due("18: a unit of 2^-240 above it", w.total(0), ONE32 + 1);
     }
 
     private static void promise19() {
@@ -639,5 +647,17 @@ final class PromiseTest {
         for (int i = 0; i < 8; i++) {
             due("a sum's word after calls on numbers", t.word(i / 4, i % 4), before[i]);
         }
+    }
+
+    private static void exampleOfTheReadme() {
+        TaperedQuire t = of16();
+        due("fromLong", t.fromLong(10), 23040);
+        due("fromLong", t.fromLong(3), 19456);
+        due("10 / 3, which 3413/1024 is nearest to", t.divide(23040, 19456), 19797);
+        due("its product with 3", t.multiply(19797, 19456), 23040);
+        due("collect", t.collect(0, 19797, 19456, false), true);
+        due("collect", t.collect(0, 23040, ONE16, true), true);
+        due("-1/1024", t.total(0), -3072);
+        due("-1/1024", t.fused(19797, 19456, -23040), -3072);
     }
 }
